@@ -1069,7 +1069,6 @@ public final class Newsmint {
             for (int i = 0; i < count; i++) {
                 Payment payment = at(i);
                 if (payment.isChosen) {
-                    payment.isChosen = false;
                     finish(books, payment, today);
                     done++;
                 }
