@@ -81,6 +81,8 @@ public final class DaysTest {
             endow 0 10000 = 10000; open 10 0 = 1; lend 0 10 10000 100 = 0; lend 0 10 10000 1 = 1; day 1 = 4
             ofHolder 10 1 = 18990; bid 0 50 1000 = 1; bid 0 50 1000 = 2; auction 2000 50 = 50; window 0 1800 = 1800
             rules 100 0 0 = 0; ofBank 0 0 = 10800; lend 0 10 1 0 = 2; day 1 = 4; ofBank 0 0 = 10620; ofBank 0 5 = 1800
+            windowBack 0 1773 = 27; rules 37 0 0 = 100; day 1 = 4; ofBank 0 0 = 8847; rules 38 0 0 = 37; day 1 = 4
+            ofBank 0 0 = 8846; ofBank 0 5 = 27
             """);
         Script.run("27 day: interest to another bank moves reserves; if they lack, it is as if it was not free", """
             rules 0 0 0 = 0; open 10 0 = 1; open 11 0 = 2; lend 0 10 100 100 = 0; pay 10 11 100 = 0; close 10 = 0

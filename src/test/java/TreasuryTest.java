@@ -48,6 +48,11 @@ public final class TreasuryTest {
         Script.run("20 auction: the bids of other banks stay as they were when one fails", """
             endow 1 100 = 100; endow 2 100 = 100; bid 0 99 9 = 1; bid 1 70 7 = 2; bid 0 98 8 = 3; bid 2 60 6 = 4; fail 0 = 0
             bid 2 80 1 = 3; auction 13 1 = 60; ofBank 2 2 = 6; ofBank 1 2 = 7; treasury = 9
+            bid 2 75 4 = 1; bid 1 65 3 = 2; bid 3 99 2 = 3; fail 3 = 0; auction 7 1 = 65; ofBank 2 2 = 10; ofBank 1 2 = 10
+            """);
+        Script.run("20 auction: the latest of them has bonds of its own", "auction 9 9 = -1;".repeat(19) + """
+            endow 3 100 = 100; bid 3 80 10 = 1; auction 10 2 = 80; ofBank 3 2 = 10; owed = 10; buyBonds 3 6 = 4; owed = 10
+            auction 1 1 ! state; treasury = 8; day 1 = 4; owed = 10; day 1 = 4; owed = 2; ofBank 3 2 = 2; ofBank 3 0 = 100
             """);
         Script.run("20 auction: wrong", """
             auction 0 1 ! argument; auction 10001 1 ! argument; auction 1 0 ! argument; auction 1 51 ! argument
@@ -104,6 +109,7 @@ public final class TreasuryTest {
             exchange 100 = 10; abroad 14 9 true = 9; pay 14 15 95 ! state; pay 14 15 45 = 1; limit 1 999 = 1000; clear = 1
             ofBank 1 0 = 59; abroad 14 9 false = 9; foreign = 0; ofBank 1 0 = 50; ofHolder 14 1 = 0
             abroad 15 50 true = 50; abroad 15 50 false = 50; ofBank 0 0 = 45; ofHolder 15 1 = 45
+            open 11 3 = 1; abroad 11 5 true = 5; abroad 11 5 false = 5; ofBank 3 0 = 0; ofHolder 11 1 = 0
             """);
         Script.run("24 abroad: wrong", """
             abroad 9 1 true ! index; abroad 16 1 true ! index; abroad -1 1 false ! index; abroad 9 0 true ! index
