@@ -6,6 +6,8 @@ public final class EdgesOfDaysTest {
         hires();
         buys();
         daysGoBy();
+        stepsInTheirOrder();
+        byTheirNumbers();
         wages();
         interest();
         interestAtAnotherBank();
@@ -64,6 +66,48 @@ public final class EdgesOfDaysTest {
             """);
         Script.run("27 day: several at once are the same as one after the other", FREE + """
             open 10 0 = 1; lend 0 10 1000 10 = 0; day 5 = 4; ofHolder 10 1 = 950; day 1 = 4; day 1 = 4; ofHolder 10 1 = 930
+            """);
+    }
+
+    /** Each run would end otherwise if the two steps changed places. */
+    private static void stepsInTheirOrder() {
+        Script.run("27 day: interest of loans is 2, that of banks is 3: there are reserves for the first of them alone", """
+            rules 100 0 0 = 0; endow 0 100 = 100; open 10 0 = 1; lend 0 10 100 100 = 0; draw 10 100 = 100; close 10 = 0; endow 1 100 = 100
+            bid 1 100 100 = 1; auction 100 50 = 100; window 1 90 = 90; open 11 1 = 1; lend 1 11 80 0 = 1; draw 11 80 = 80; open 10 1 = 2
+            bring 10 100 = 100; ofBank 1 0 = 10; day 1 = 4; ofLoan 0 3 = 0; ofBank 0 0 = 10; ofBank 1 0 = 0; ofBank 1 5 = 99
+            """);
+        Script.run("27 day: interest of banks is 3, clearing is 4", lentNinety(0) + """
+            open 11 1 = 1; lend 0 10 82 0 = 0; pay 10 11 82 = 0; rules 100 0 0 = 0; day 1 = 4; payment 0 = 0; ofBank 0 0 = 81; ofBank 0 5 = 90
+            """);
+        Script.run("27 day: clearing is 4, bonds that are due are 5", FREE + """
+            open 10 0 = 1; open 11 1 = 1; endow 0 10 = 10; bid 0 100 10 = 1; auction 10 1 = 100; lend 0 10 10 0 = 0; pay 10 11 10 = 0
+            day 1 = 4; payment 0 = 0; ofBank 0 0 = 10; day 1 = 4; payment 0 = 1; ofBank 1 0 = 10
+            """);
+        Script.run("27 day: what is short is asked for in 6, households draw in 7", """
+            rules 0 0 100 = 0; open 0 0 = 1; endow 0 50 = 50; lend 0 0 51 0 = 0; open 10 0 = 2; pay 0 10 1 = 0; day 1 = 4; ofHolder 0 3 = 50
+            """);
+        Script.run("27 day: households draw in 7, banks whose capital is below 0 fail in 8", FREE + """
+            open 10 0 = 1; open 11 1 = 1; open 1 0 = 2; mint 1 50 = 50; bring 1 50 = 50; lend 0 10 100 10 = 0; endow 0 99 = 99; pay 10 11 99 = 0
+            pay 10 1 1 = 1; day 2 = 4; rules 0 0 100 = 0; day 1 = 3; ofHolder 1 3 = 50; ofHolder 1 1 = 1; ofHolder 1 0 = 1
+            """);
+        Script.run("27 day: prices change in 9, what is expected in 10", "day 3 = 4; price 10 = 7; ofHolder 0 7 = 10; day 1 = 4; price 10 = 6; ofHolder 0 7 = 9");
+    }
+
+    private static void byTheirNumbers() {
+        Script.run("27 day: loans, by their numbers: there is enough for the first one alone", FREE + """
+            open 10 0 = 1; open 11 0 = 2; endow 0 999 = 999; lend 0 10 100 100 = 0; lend 0 10 100 100 = 1; pay 10 11 190 = 0; day 1 = 4
+            ofLoan 0 3 = 0; ofLoan 1 3 = 1; ofHolder 10 1 = 0
+            """);
+        Script.run("27 day: households, by their numbers: there is enough for the first one alone", """
+            rules 0 0 100 = 0; open 2 0 = 1; open 7 0 = 2; endow 0 50 = 50; lend 0 2 50 0 = 0; lend 0 7 50 0 = 1; day 1 = 3
+            ofHolder 2 3 = 50; ofHolder 7 3 = 0; ofHolder 7 1 = 50; ofHolder 7 0 = 1
+            """);
+        // What is paid out of 0 comes to 1 before that one fails: of 409 in accounts 408 are there.
+        Script.run("27 day: banks whose capital is below 0 fail, by their numbers", FREE + """
+            open 10 0 = 1; open 11 1 = 1; open 14 2 = 1; open 12 0 = 2; open 13 1 = 2; mint 12 204 = 204; bring 12 204 = 204; mint 13 204 = 204
+            bring 13 204 = 204; lend 0 10 100 10 = 0; lend 1 11 100 10 = 1; endow 0 99 = 99; endow 1 99 = 99; pay 10 14 99 = 0; pay 11 14 99 = 1
+            pay 10 12 1 = 2; pay 11 13 1 = 3; day 2 = 4; ofBank 0 6 = 99; ofBank 1 6 = 99; day 1 = 2; ofBank 0 9 = 1; ofBank 1 9 = 1
+            ofHolder 12 0 = 2; ofHolder 13 0 = 2; ofHolder 12 1 = 203; ofHolder 13 1 = 204
             """);
     }
 
@@ -158,6 +202,9 @@ public final class EdgesOfDaysTest {
         Script.run("27 day: when interest was paid, be it 0", poor + """
             day 2 = 4; pay 11 10 1 = 1; payBack 0 1 = 99; ofHolder 10 2 = 0; day 1 = 4; ofLoan 0 3 = 0; ofLoan 0 2 = 99
             """);
+        Script.run("27 day: a loan of which 1 is left has an interest of 0", poor + """
+            day 2 = 4; pay 11 10 100 = 1; payBack 0 99 = 1; pay 10 11 1 = 2; ofLoan 0 3 = 2; day 1 = 4; ofLoan 0 3 = 0; ofLoan 0 2 = 1
+            """);
         Script.run("27 day: an interest of 0 without an account", poor + """
             day 2 = 4; pay 11 10 1 = 1; payBack 0 1 = 99; close 10 = 0; day 1 = 4; ofLoan 0 3 = 0; ofLoan 0 2 = 99
             """);
@@ -174,6 +221,9 @@ public final class EdgesOfDaysTest {
         Script.run("27 day: a rate of 0", lentNinety(0) + "day 5 = 4; ofBank 0 0 = 90; ofBank 0 5 = 90; centralAnew = -100");
         Script.run("27 day: a rate of 100, by 1000", lentNinety(0) + "rules 100 0 0 = 0; day 1 = 4; ofBank 0 0 = 81; ofBank 0 5 = 90; central = -91; centralAnew = -91");
         Script.run("27 day: it is rounded down", lentNinety(0) + "rules 11 0 0 = 0; day 1 = 4; ofBank 0 0 = 90; rules 12 0 0 = 11; day 1 = 4; ofBank 0 0 = 89");
+        Script.run("27 day: by 1000: of 999 at a rate of 1 none, of 1000 it is 1", "endow 0 10000 = 10000; bid 0 100 1000 = 1; bid 0 100 500 = 2\n"
+                + "auction 1500 50 = 100; rules 1 0 0 = 0; window 0 999 = 999; day 1 = 4; ofBank 0 0 = 9499; window 0 1 = 1000; day 1 = 4; ofBank 0 0 = 9499\n"
+                + "central = -9999; centralAnew = -9999");
         String paidOut = lentNinety(0) + "rules 100 0 0 = 0; lend 0 10 90 0 = 0\n";
         Script.run("27 day: the reserves are just enough", paidOut + "draw 10 81 = 81; day 1 = 4; ofBank 0 0 = 0; ofBank 0 5 = 90; central = -91; centralAnew = -91");
         Script.run("27 day: 1 is missing, and is lent as well", paidOut + "draw 10 82 = 82; day 1 = 4; ofBank 0 0 = 0; ofBank 0 5 = 91; central = -91; centralAnew = -91");
@@ -189,6 +239,9 @@ public final class EdgesOfDaysTest {
             """);
         Script.run("27 day: the share is rounded up", bank.replace("R", "1") + """
             draw 10 90 = 90; ofBank 0 0 = 10; ofBank 0 4 = 910; day 1 = 4; ofBank 0 8 = 0; draw 10 1 = 1; day 1 = 4; ofBank 0 8 = 1
+            """);
+        Script.run("27 day: the share is rounded up, be it from a hundredth", """
+            rules 0 0 1 = 0; open 10 0 = 1; endow 0 1 = 1; lend 0 10 100 0 = 0; day 1 = 4; ofBank 0 8 = 0; lend 0 10 1 0 = 1; day 1 = 4; ofBank 0 8 = 1
             """);
         Script.run("27 day: what is even is not rounded", bank.replace("R", "10") + "day 1 = 4; ofBank 0 8 = 0; rules 0 0 10 = 0; lend 0 10 1 0 = 1; day 1 = 4; ofBank 0 8 = 1");
         Script.run("27 day: a share of 0 percent", "rules 0 0 0 = 0; open 10 0 = 1; lend 0 10 1000 0 = 0; day 1 = 4; ofBank 0 0 = 0; ofBank 0 8 = 0");

@@ -110,6 +110,9 @@ public final class EdgesOfFailuresTest {
         Script.run("28 fail: 90 percent of bonds: 4 of 5", one + """
             endow 0 5 = 5; bid 0 100 5 = 1; auction 5 9 = 100; lend 0 0 200 0 = 0; fail 0 = 104; ofHolder 0 1 = 104
             """);
+        Script.run("28 fail: 90 percent of 1000 bonds, 50 percent of loans of 3001", one + """
+            endow 0 1000 = 1000; bid 0 100 1000 = 1; auction 1000 9 = 100; lend 0 0 3001 0 = 0; fail 0 = 2400; ofHolder 0 1 = 2400
+            """);
         Script.run("28 fail: 50 percent of what is left of loans", one + """
             lend 0 0 300 0 = 0; pay 0 1 50 = 0; payBack 0 50 = 250; fail 0 = 150; ofHolder 0 1 = 100; ofHolder 1 1 = 50
             """);

@@ -89,6 +89,9 @@ public final class EdgesOfTreasuryTest {
         Script.run("20 auction: what it would cost is rounded up", """
             endow 0 1 = 1; bid 0 51 2 = 1; auction 2 1 = -1; bid 0 50 2 = 1; auction 2 1 = 50; ofBank 0 0 = 0
             """);
+        Script.run("20 auction: what it would cost is rounded up, be it from a hundredth", """
+            endow 0 2 = 2; bid 0 67 3 = 1; auction 3 1 = -1; endow 0 1 = 3; bid 0 67 3 = 1; auction 3 1 = 67; ofBank 0 0 = 0; treasury = 3
+            """);
         Script.run("20 auction: at its own price, though the least one is less", """
             endow 0 9 = 9; endow 1 100 = 100; bid 0 100 10 = 1; bid 1 50 10 = 2; auction 20 1 = 50; ofBank 0 2 = 0; ofBank 1 2 = 10
             """);
@@ -99,6 +102,10 @@ public final class EdgesOfTreasuryTest {
         Script.run("20 auction: besides its bids that were taken already at theirs", """
             endow 0 19 = 19; bid 0 100 10 = 1; bid 0 90 10 = 2; auction 20 1 = 90; ofBank 0 2 = 20; ofBank 0 0 = 1
             endow 1 18 = 18; bid 1 100 10 = 1; bid 1 90 10 = 2; auction 20 1 = 100; ofBank 1 2 = 10; ofBank 1 0 = 8
+            """);
+        Script.run("20 auction: besides all of its bids that were taken already, not the latest of them alone", """
+            endow 0 26 = 26; endow 1 27 = 27; bid 0 100 10 = 1; bid 0 90 10 = 2; bid 0 80 10 = 3; auction 30 1 = 90; ofBank 0 2 = 20
+            bid 1 100 10 = 1; bid 1 90 10 = 2; bid 1 80 10 = 3; auction 30 1 = 80; ofBank 1 2 = 30; ofBank 1 0 = 3
             """);
         Script.run("20 auction: one that was passed over costs nothing, and a later one of the bank may be taken", """
             endow 0 5 = 5; bid 0 100 6 = 1; bid 0 99 5 = 2; auction 6 1 = 99; ofBank 0 2 = 5; ofBank 0 0 = 0
